@@ -603,6 +603,22 @@ public final class HoleDesk {
         return trial;
     }
 
+    /**
+     * The nearest node that binds a letter where a node stands, null if none does. One binder (or null)
+     * may be looked at as if it bore another letter than it does, to see ahead what renaming it brings.
+     */
+    private static Node nearestBinder(Node from, int letter, Node renamed, int as) {
+        Node below = from;
+        for (Node up = from.parent; up != null; up = up.parent) {
+            boolean binds = up.sort == DEF || (up.sort == LET && below.place == 1);
+            if (binds && (up == renamed ? as : up.v) == letter) {
+                return up;
+            }
+            below = up;
+        }
+        return null;
+    }
+
     private int listOffers() {
         Node hole = sheet.cursor;
         int many = 0;
@@ -973,19 +989,6 @@ public final class HoleDesk {
             }
             return 0;
         }
-    }
-
-    /** The nearest node that binds a letter where a node stands, if one were called as it is not yet. */
-    private static Node nearestBinder(Node from, int letter, Node renamed, int as) {
-        Node below = from;
-        for (Node up = from.parent; up != null; up = up.parent) {
-            boolean binds = up.sort == DEF || (up.sort == LET && below.place == 1);
-            if (binds && (up == renamed ? as : up.v) == letter) {
-                return up;
-            }
-            below = up;
-        }
-        return null;
     }
 
     /** The tree of nodes with its cursor, and how both were ahead of the latest acts. */
@@ -1463,7 +1466,7 @@ public final class HoleDesk {
             boolean waits = one.isLeft();
             switch (node.sort) {
                 case PAIR:
-                    return pool.couple(one, two);
+                    return two == null ? null : pool.couple(one, two);
                 case USE:
                     if (one.form == Value.CLOSURE) {
                         return begin(one.node.parts[0], pool.bind(one.node.v, two, one.sees), depth);
@@ -1481,10 +1484,10 @@ public final class HoleDesk {
                     }
                     break;
                 default:
-                    if (one.form == Value.WHOLE && two.form == Value.WHOLE) {
+                    if (two != null && one.form == Value.WHOLE && two.form == Value.WHOLE) {
                         return reckon(node, one.number, two.number);
                     }
-                    waits = waits || two.isLeft();
+                    waits = waits || (two != null && two.isLeft());
                     break;
             }
             return waits ? pool.act(node, one, two, node.sort == PICK ? sees : null) : stop(CLASH, node.birth);
@@ -1539,7 +1542,7 @@ public final class HoleDesk {
                 return null;
             }
             if (value.form == Value.COUPLE) {
-                return pool.couple(one, two);
+                return two == null ? null : pool.couple(one, two);
             }
             Seen sees = goOnSights(value.sees, depth);
             return outcome == RUNNING ? act(value.node, one, two, sees, depth) : null;
@@ -1581,13 +1584,14 @@ public final class HoleDesk {
             return i >= 0 && i < size ? bytes[i] : NONE;
         }
 
-        // A value leaves at most five things to do behind a byte of its own, so that the room suffices.
+        // Whatever is taken up writes a byte at once and leaves at most five things to do: the room and
+        // the turns suffice.
         void writeAll(Value value) {
             size = 0;
             holeCount = 0;
             todo = 0;
             later(value, 0);
-            while (todo > 0 && size < MOST_BYTES) {
+            for (int turn = 0; turn < MOST_BYTES && todo > 0; turn++) {
                 todo--;
                 if (todoValues[todo] != null) {
                     addOne(todoValues[todo]);
