@@ -970,17 +970,52 @@ public final class PromisesTest {
         due("25: one step", f.resume(1), 4);
         due("27: a value: none", f.where(), Desk.NONE);
         due("12: pair", f.seek(pair), 1);
+        HoleDesk g = Desk.of("(let f (def x 0 (told 0 (use x x))) (use f f))");
+        due("24: without end", g.work(300), 4);
+        // LET 1, USE 2, TOLD 3, USE 4, .. USE 60: its parts are the 61st; f and f, x and x beside
+        due("26: 60 within one another, DEF, names", g.steps(), 60 + 1 + 2 * 29);
+        due("27: x in the USE", g.where(), Desk.at(g, 0, 0, 0, 0));
+        due("24: steps ahead of that", g.work(100), 4);
+        due("26: 100", g.steps(), 100);
         deepValues();
+        rowsUsedAgain();
     }
 
-    /** So many FIRST of a hole, most of them by a DEF that is used again and again. */
-    static HoleDesk firsts(int many) {
-        StringBuilder program = new StringBuilder("?");
-        for (int i = 0; i < many / 10; i++) {
-            program = new StringBuilder("(use f " + program + ")");
+    /** What a judging or a working makes must not use up the room for the next one. */
+    static void rowsUsedAgain() {
+        HoleDesk d = Desk.of("(let a (pair (def b 1 1) (pair 1 (pick ? (pair 1 ?) (pair ? 2)))) (pair a ?))");
+        String made = Desk.made(d);
+        due("9: made", made, "ppfwwpwpww?");
+        Desk.seek(d, 0, 0, 0);
+        for (int i = 0; i < 500; i++) {
+            d.write(i);
         }
+        due("9: judged 500 times", Desk.made(d), made);
+        Desk.seek(d, 1, 1);
+        for (int i = 0; i < 500; i++) {
+            due("22: offered 500 times", d.offers(), 15);
+        }
+        due("9: it stays", Desk.made(d), made);
+        d.work(300);
+        String value = Desk.value(d);
+        for (int i = 0; i < 500; i++) {
+            d.resume(300);
+        }
+        due("28: gone on with 500 times", Desk.value(d), value);
+        for (int i = 0; i < 500; i++) {
+            d.work(300);
+        }
+        due("28: worked 500 times", Desk.value(d), value);
+    }
+
+    /** So many FIRST of what is told, most of them by a DEF that is used again and again. */
+    static HoleDesk firsts(int many, String of) {
+        String program = of;
         for (int i = 0; i < many % 10; i++) {
-            program = new StringBuilder("(first " + program + ")");
+            program = "(first " + program + ")";
+        }
+        for (int i = 0; i < many / 10; i++) {
+            program = "(use f " + program + ")";
         }
         HoleDesk d = Desk.of("(let f (def x 0 " + "(first ".repeat(10) + "x" + ")".repeat(10) + ") " + program + ")");
         due("24: firsts", d.work(300), 1);
@@ -988,13 +1023,19 @@ public final class PromisesTest {
     }
 
     static void deepValues() {
-        HoleDesk d = firsts(58);
+        HoleDesk d = firsts(58, "?");
         due("25: 59 within one another", d.resume(300), 1);
         due("26: and what the hole sees", d.steps(), 60);
-        HoleDesk e = firsts(59);
+        HoleDesk e = firsts(59, "?");
         due("25: what the hole sees is the 61st", e.resume(300), 4);
         due("27: a value", e.where(), Desk.NONE);
         due("26: 60 steps", e.steps(), 60);
+        HoleDesk g = firsts(58, "3");
+        due("25: a frame, and what is in it", g.resume(300), 1);
+        due("26: 60 steps", g.steps(), 60);
+        HoleDesk h = firsts(59, "3");
+        due("25: what is in the frame is the 61st", h.resume(300), 4);
+        due("26: 60 steps", h.steps(), 60);
         HoleDesk f = new HoleDesk();
         for (int i = 0; i < 59; i++) {
             f.put(13, 0, 0);
@@ -1179,6 +1220,14 @@ public final class PromisesTest {
         Desk.seek(d, 0).fill(0);
         due("25: a new node's frame is none of those", d.resume(300), 1);
         due("28: in its frame", Desk.value(d), "(+ {yes} 1)");
+        d = Desk.of("yes");
+        d.shelve(0);
+        d.take();
+        Desk.put(d, "(pick ? ? 1)");
+        due("24: left", d.work(300), 1);
+        Desk.seek(d, 1).fill(0);
+        due("7: the top's reason", Desk.reason(d), 5);
+        due("25: the top's reason", d.resume(300), Desk.STATE);
         d = Desk.of("(pick ? 1 yes)");
         due("7: 5", Desk.reason(d), 5);
         due("24: spent", d.work(1), 4);
