@@ -573,7 +573,7 @@ public final class HoleDesk {
         judge.judgeAll(sheet.top);
     }
 
-    /** After an act that resume() can not go on behind: any but fill(). */
+    // fill() alone leaves a value that resume() can go on with.
     private void changed() {
         changedSince = true;
         settle();
@@ -713,6 +713,8 @@ public final class HoleDesk {
 
     /** Rows of kinds: those that were told come first, those that one judging makes stand behind. */
     private static final class Kinds {
+        // Far more than one judging needs: a node makes a row at most, a PICK one for each kind with parts
+        // (19 of them in a SIZE of 40) in what its parts made together.
         private static final int ROWS = MOST_KINDS + 1400;
         final int[] shape = new int[ROWS];
         final int[] one = new int[ROWS];

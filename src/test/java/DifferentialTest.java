@@ -1,5 +1,10 @@
+import java.lang.reflect.Method;
+import java.lang.reflect.Modifier;
 import java.util.ArrayList;
+import java.util.Arrays;
+import java.util.HashMap;
 import java.util.List;
+import java.util.Map;
 import java.util.Random;
 
 /** Random runs of calls on HoleDesk and on the Model: every answer must be the same. */
@@ -10,94 +15,35 @@ public final class DifferentialTest {
         }
     }
 
-    static long desk(HoleDesk d, Call q) {
-        int a = q.a, b = q.b, c = q.c;
-        return switch (q.name) {
-            case "kind" -> d.kind(a != 0, b, c);
-            case "kindOf" -> d.kindOf(a, b);
-            case "meet" -> d.meet(a, b);
-            case "nodes" -> d.nodes();
-            case "cursor" -> d.cursor();
-            case "told" -> d.told(a, b);
-            case "part" -> d.part(a, b);
-            case "sign" -> d.sign(a, b != 0, c);
-            case "hole" -> d.hole(a, b != 0);
-            case "go" -> d.go(a);
-            case "seek" -> d.seek(a);
-            case "put" -> d.put(a, b, c);
-            case "take" -> d.take();
-            case "unwrap" -> d.unwrap(a);
-            case "write" -> d.write(a);
-            case "rename" -> d.rename(a);
-            case "move" -> d.move(a);
-            case "shelve" -> d.shelve(a);
-            case "fill" -> d.fill(a);
-            case "undo" -> d.undo();
-            case "offers" -> d.offers();
-            case "offer" -> d.offer(a, b);
-            case "work" -> d.work(a);
-            case "resume" -> d.resume(a);
-            case "steps" -> d.steps();
-            case "where" -> d.where();
-            case "value" -> d.value(a);
-            case "left" -> d.left(a);
-            case "seen" -> d.seen(a, b, c);
-            case "box" -> d.box(a);
-            case "keep" -> d.keep(a, b);
-            case "boxed" -> d.boxed(a, b);
-            case "share" -> d.share(a, b);
-            case "asked" -> d.asked();
-            case "count" -> d.count(a);
-            case "finding" -> d.finding();
-            case "findings" -> d.findings(a);
-            case "digest" -> d.digest();
-            default -> throw new IllegalArgumentException(q.name);
-        };
+    static final Map<String, Method> DESK = face(HoleDesk.class);
+    static final Map<String, Method> MODEL = face(Model.class);
+
+    /** The methods of a class that take nothing but numbers and truths, by their names. */
+    static Map<String, Method> face(Class<?> of) {
+        Map<String, Method> face = new HashMap<>();
+        for (Method method : of.getDeclaredMethods()) {
+            if (!Modifier.isPrivate(method.getModifiers())
+                && Arrays.stream(method.getParameterTypes()).allMatch(t -> t == int.class || t == boolean.class)) {
+                face.put(method.getName(), method);
+            }
+        }
+        return face;
     }
 
-    static long model(Model d, Call q) {
-        int a = q.a, b = q.b, c = q.c;
-        return switch (q.name) {
-            case "kind" -> d.kind(a != 0, b, c);
-            case "kindOf" -> d.kindOf(a, b);
-            case "meet" -> d.meet(a, b);
-            case "nodes" -> d.nodes();
-            case "cursor" -> d.cursor();
-            case "told" -> d.told(a, b);
-            case "part" -> d.part(a, b);
-            case "sign" -> d.sign(a, b != 0, c);
-            case "hole" -> d.hole(a, b != 0);
-            case "go" -> d.go(a);
-            case "seek" -> d.seek(a);
-            case "put" -> d.put(a, b, c);
-            case "take" -> d.take();
-            case "unwrap" -> d.unwrap(a);
-            case "write" -> d.write(a);
-            case "rename" -> d.rename(a);
-            case "move" -> d.move(a);
-            case "shelve" -> d.shelve(a);
-            case "fill" -> d.fill(a);
-            case "undo" -> d.undo();
-            case "offers" -> d.offers();
-            case "offer" -> d.offer(a, b);
-            case "work" -> d.work(a);
-            case "resume" -> d.resume(a);
-            case "steps" -> d.steps();
-            case "where" -> d.where();
-            case "value" -> d.value(a);
-            case "left" -> d.left(a);
-            case "seen" -> d.seen(a, b, c);
-            case "box" -> d.box(a);
-            case "keep" -> d.keep(a, b);
-            case "boxed" -> d.boxed(a, b);
-            case "share" -> d.share(a, b);
-            case "asked" -> d.asked();
-            case "count" -> d.count(a);
-            case "finding" -> d.finding();
-            case "findings" -> d.findings(a);
-            case "digest" -> d.digest();
-            default -> throw new IllegalArgumentException(q.name);
-        };
+    /** Calls a method with as many of the numbers as it takes; for a truth, 0 is false. */
+    static long answer(Map<String, Method> face, Object on, Call q) {
+        Method method = face.get(q.name);
+        int[] numbers = {q.a, q.b, q.c};
+        Class<?>[] types = method.getParameterTypes();
+        Object[] taken = new Object[types.length];
+        for (int i = 0; i < taken.length; i++) {
+            taken[i] = types[i] == int.class ? (Object) numbers[i] : (Object) (numbers[i] != 0);
+        }
+        try {
+            return ((Number) method.invoke(on, taken)).longValue();
+        } catch (ReflectiveOperationException e) {
+            throw new IllegalStateException(q.toString(), e);
+        }
     }
 
     final Random random;
@@ -118,8 +64,8 @@ public final class DifferentialTest {
     long call(String name, int a, int b, int c) {
         Call q = new Call(name, a, b, c);
         log.add(q.toString());
-        long want = model(model, q);
-        long got = desk(desk, q);
+        long want = answer(MODEL, model, q);
+        long got = answer(DESK, desk, q);
         if (got != want) {
             wrong++;
             if (wrong < 3) {

@@ -43,7 +43,8 @@ public final class RoomTest {
             }
             String[] names = LanguageTest.FACE.split(" ");
             String name = names[1 + random.nextInt(38)];
-            DifferentialTest.desk(d, new DifferentialTest.Call(name, n[0], n[1], n[2]));
+            DifferentialTest.answer(DifferentialTest.DESK, d,
+                new DifferentialTest.Call(name, n[0], n[1], n[2]));
         }
     }
 
