@@ -520,6 +520,10 @@ public final class EdgesTest {
         due("11: no up", e.go(0), Desk.STATE);
         PromisesTest.move("(pair 1 (pair z (def z 0 ?)))", new int[] {0}, new int[] {1, 1, 0}, 0,
             "(pair ? (pair z (def z 0 1)))");
+        PromisesTest.move("(pair (pair 1 z) (def z 0 ?))", new int[] {0, 0}, new int[] {1, 0}, 0,
+            "(pair (pair ? z) (def z 0 1))");
+        PromisesTest.move("(pair (pair z 1) (def z 0 ?))", new int[] {0, 1}, new int[] {1, 0}, 0,
+            "(pair (pair z ?) (def z 0 1))");
         PromisesTest.move("(pair (pair a ?) (let a 1 ?))", new int[] {0, 1}, new int[] {1, 1}, 0,
             "(pair (pair a ?) (let a 1 ?))");
         PromisesTest.move("(def z 0 (pair 1 (pair z (def z 0 ?))))", new int[] {0, 0}, new int[] {0, 1, 1, 0}, 0,

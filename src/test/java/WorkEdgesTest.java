@@ -27,6 +27,7 @@ public final class WorkEdgesTest {
         binding();
         seeing();
         bytes();
+        bytesAfterEnding();
         bytesOfHoles();
         bytesSeen();
         filledHoles();
@@ -490,6 +491,22 @@ public final class WorkEdgesTest {
         HoleDesk cut = Desk.of("(told 1 " + row("1234567") + ")");
         cut.work(300);
         Desk.dueBytes("28: 401 in a frame", cut, "{" + rowWritten("1234567"));
+    }
+
+    /** What was ended behind 400 bytes leaves nothing for what is written next. */
+    static void bytesAfterEnding() {
+        HoleDesk d = Desk.of("(pair (let a 1 " + PromisesTest.doubled(9, "a") + ") 5)");
+        d.work(300);
+        due("28: ended", d.value(-1), 400);
+        Desk.seek(d).unwrap(1);
+        due("24: anew", d.work(300), 0);
+        due("28: anew", Desk.value(d), "5");
+        HoleDesk e = Desk.of("(let b 5 (let a -1234567890 " + PromisesTest.doubled(8, "?") + "))");
+        due("24: a hole", e.work(300), 1);
+        due("30: ended", e.seen(0, 0, -1), 400);
+        due("30: another one", Desk.seen(e, 0, 'b'), "5");
+        due("30: ended again", e.seen(0, 0, -1), 400);
+        due("28: the value stays", Desk.value(e), "?" + e.left(0));
     }
 
     static void bytesOfHoles() {
