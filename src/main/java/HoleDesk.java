@@ -725,16 +725,16 @@ public final class HoleDesk {
 
         Kinds() {
             for (int base = UNKNOWN; base <= IS_TRUTH; base++) {
-                setRow(base, base, NONE, NONE);
-                size[base] = 1;
+                setRow(base, base, NONE, NONE, 1);
             }
             told = IS_TRUTH + 1;
         }
 
-        private void setRow(int row, int itsShape, int a, int b) {
+        private void setRow(int row, int itsShape, int a, int b, int itsSize) {
             shape[row] = itsShape;
             one[row] = a;
             two[row] = b;
+            size[row] = itsSize;
         }
 
         boolean has(int kind) {
@@ -755,8 +755,7 @@ public final class HoleDesk {
         }
 
         int tell(int itsShape, int a, int b) {
-            setRow(told, itsShape, a, b);
-            size[told] = sizeWith(a, b);
+            setRow(told, itsShape, a, b, sizeWith(a, b));
             return told++;
         }
 
@@ -769,17 +768,12 @@ public final class HoleDesk {
             if (itsSize > MOST_SIZE || used >= ROWS) {
                 return UNKNOWN;
             }
-            setRow(used, itsShape, a, b);
-            size[used] = itsSize;
+            setRow(used, itsShape, a, b, itsSize);
             return used++;
         }
 
         boolean doMeet(int a, int b) {
             return meeting(a, b, 0);
-        }
-
-        int joined(int a, int b) {
-            return together(a, b, 0);
         }
 
         private boolean meeting(int a, int b, int depth) {
@@ -793,7 +787,7 @@ public final class HoleDesk {
                     || (meeting(one[a], one[b], depth + 1) && meeting(two[a], two[b], depth + 1));
         }
 
-        private int together(int a, int b, int depth) {
+        int together(int a, int b, int depth) {
             if (shape[a] == UNKNOWN || depth > MOST_SIZE) {
                 return b;
             }
@@ -948,7 +942,7 @@ public final class HoleDesk {
                 return asked;
             }
             if (kinds.doMeet(yes, no)) {
-                return kinds.joined(yes, no);
+                return kinds.together(yes, no, 0);
             }
             pick.reason = 5;
             return UNKNOWN;
@@ -1275,18 +1269,16 @@ public final class HoleDesk {
             usedSights = 0;
         }
 
-        private Value next() {
-            if (usedValues >= values.length) {
-                return new Value();
-            }
-            if (values[usedValues] == null) {
-                values[usedValues] = new Value();
-            }
-            return values[usedValues++];
-        }
-
         private Value made(int form, int number, Node node, Seen sees) {
-            Value value = next();
+            Value value;
+            if (usedValues >= values.length) {
+                value = new Value();
+            } else {
+                if (values[usedValues] == null) {
+                    values[usedValues] = new Value();
+                }
+                value = values[usedValues++];
+            }
             value.form = form;
             value.number = number;
             value.node = node;

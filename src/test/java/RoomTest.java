@@ -5,8 +5,8 @@ import java.util.Random;
 /** What the dearest runs of 512 calls make, in bytes, and that no call throws, for any numbers. */
 public final class RoomTest {
     static final ThreadMXBean BEAN = (ThreadMXBean) ManagementFactory.getThreadMXBean();
-    /** 600,000 objects of 16 bytes ahead of their fields would be more than this alone. */
-    static final long MOST_BYTES = 5_000_000;
+    /** A tenth of 600,000 objects of 16 bytes; rows that were not used again would be more. */
+    static final long MOST_BYTES = 1_000_000;
 
     static long made() {
         return BEAN.getThreadAllocatedBytes(Thread.currentThread().getId());
@@ -25,10 +25,15 @@ public final class RoomTest {
         Desk.due("room of " + what, bytes < MOST_BYTES ? 1 : 0, 1);
     }
 
-    /** Uses that go on until 300 STEPS are done, with a hole that is left in each value. */
+    /** Uses that take nearly 300 STEPS, in working and in going on, with holes and frames in what comes. */
     static void busy(HoleDesk d) {
-        Desk.put(d, "(let f (def x 0 (pair (+ x ?) (pair x (+ x 1)))) "
-            + "(let g (def y 0 (use f (use f (pair (use f y) ?)))) (pair (use g 1) (pair (use g ?) (use g 3)))))");
+        Desk.put(d, "(let f (def x 0 (pair (+ x ?) (told 1 (told 2 x)))) "
+            + "(let g (def y 0 (pair (use f y) (use f (pair y ?)))) "
+            + "(pair (use g 1) ".repeat(8) + "(use g ?)" + ")".repeat(10));
+        Desk.due("24: busy", d.work(300), 1);
+        Desk.due("26: busy", d.steps() > 240 ? 1 : 0, 1);
+        Desk.due("25: busy", d.resume(300), 1);
+        Desk.due("26: busy", d.steps() > 270 ? 1 : 0, 1);
     }
 
     static void anything(long seed) {
@@ -52,14 +57,13 @@ public final class RoomTest {
         room("a new desk", d -> { });
         room("work", d -> {
             busy(d);
-            for (int i = 0; i < 480; i++) {
+            for (int i = 0; i < 430; i++) {
                 d.work(300);
             }
         });
         room("resume", d -> {
             busy(d);
-            d.work(300);
-            for (int i = 0; i < 480; i++) {
+            for (int i = 0; i < 430; i++) {
                 d.resume(300);
             }
         });
@@ -95,8 +99,7 @@ public final class RoomTest {
         });
         room("looking", d -> {
             busy(d);
-            d.work(300);
-            for (int i = 0; i < 480; i++) {
+            for (int i = 0; i < 140; i++) {
                 d.value(i);
                 d.seen(0, 23, i);
                 d.digest();

@@ -22,6 +22,7 @@ public final class WorkEdgesTest {
         withinWorking();
         withinGoingOn();
         beginningWithinGoingOn();
+        stoppedInGoingOn();
         outcomes();
         frames();
         binding();
@@ -359,6 +360,34 @@ public final class WorkEdgesTest {
             begun(within(k, "(first", ")", "(pick ? z " + tolds + ")"), "no", outcome, Desk.NAME, Desk.TOLD);
             begun(within(k, "(first", ")", "?"), tolds, outcome, Desk.NAME, Desk.TOLD);
         }
+    }
+
+    /** Going on with a program whose hole is filled: it stops in the filling, behind so many STEPS. */
+    static void stopsGoingOn(String program, String filling, int outcome, int steps) {
+        HoleDesk d = Desk.of(filling);
+        d.shelve(0);
+        d.take();
+        Desk.put(d, program);
+        due("24: " + program, d.work(300) < 2 ? 1 : 0, 1);
+        d.seek(d.hole(0, false));
+        int top = d.fill(0);
+        due("25: " + program + " with " + filling, d.resume(300), outcome);
+        due("26: nothing is begun behind it", d.steps(), steps);
+        due("27: there", d.where(), top);
+        due("28: no VALUE", d.value(-1), Desk.NONE);
+        due("36: it came to that", d.count(6), outcome);
+    }
+
+    static void stoppedInGoingOn() {
+        stopsGoingOn("(pick ? 1 2)", "(/ 1 0)", 2, 5);
+        stopsGoingOn("(let a 1 (let b 2 (pick (first ?) a b)))", "(/ 1 0)", 2, 8);
+        stopsGoingOn("(let a 1 (let b 2 (pick (first ?) a b)))", "(first (told 0 1))", 3, 8);
+        stopsGoingOn("(pair ? (pair 1 2))", "(/ 1 0)", 2, 5);
+        stopsGoingOn("(+ ? z)", "(/ 1 0)", 2, 5);
+        stopsGoingOn("(use ? z)", "(first (told 0 1))", 3, 5);
+        stopsGoingOn("(let a ? (let b 2 (def c 0 a)))", "(/ 1 0)", 2, 5);
+        stopsGoingOn("(let a ? (let b 2 (pair ? b)))", "(/ 1 0)", 2, 6);
+        stopsGoingOn("(told 1 (pair ? 1))", "(/ 1 0)", 2, 6);
     }
 
     // ---- what is LEFT, and what comes
